@@ -264,7 +264,7 @@ public final class FlateFilter {
             return fault;
         }
 
-        /** A fault at the byte of which the last bit was taken; always false, to be handed on. */
+        /** A fault at the byte of which the last bit was taken, if there is none yet; always false. */
         boolean fail() {
             if (fault == NO_FAULT) {
                 fault = Math.max(0, (taken - 1) >> 3);
@@ -272,18 +272,12 @@ public final class FlateFilter {
             return false;
         }
 
-        private int end() {
-            if (fault == NO_FAULT) {
-                fault = count;
-            }
-            return -1;
-        }
-
         /** The next whole byte, what is left of one being passed; -1 at the end, which is a fault. */
         int nextByte() {
             int place = (taken + 7) >> 3;
             if (place >= count) {
-                return end();
+                fault = count;
+                return -1;
             }
             taken = (place + 1) << 3;
             return cells[place] & 255;
@@ -295,7 +289,8 @@ public final class FlateFilter {
             for (int i = 0; i < width; i++) {
                 int place = taken >> 3;
                 if (place >= count) {
-                    return end();
+                    fault = count;
+                    return -1;
                 }
                 number |= ((cells[place] >> (taken & 7)) & 1) << i;
                 taken++;
@@ -309,7 +304,8 @@ public final class FlateFilter {
             for (int i = 0; i < width; i++) {
                 int place = taken >> 3;
                 if (place >= count) {
-                    return end();
+                    fault = count;
+                    return -1;
                 }
                 number = (number << 1) | ((cells[place] >> (7 - (taken & 7))) & 1);
                 taken++;
@@ -340,10 +336,6 @@ public final class FlateFilter {
             return (bits + 7) >> 3;
         }
 
-        boolean isFull() {
-            return size() >= cells.length;
-        }
-
         int at(int i) {
             return i >= 0 && i < cells.length ? cells[i] & 255 : 0;
         }
@@ -354,39 +346,48 @@ public final class FlateFilter {
 
         /** A whole byte; what is left of one begun is passed. */
         void put(int value) {
-            int place = size();
+            int place = (bits + 7) >> 3;
             if (place < cells.length) {
                 cells[place] = (byte) value;
             }
             bits = (place + 1) << 3;
         }
 
+        /** A whole byte, if there is room for it. */
+        boolean offer(int value) {
+            int place = (bits + 7) >> 3;
+            if (place >= cells.length) {
+                return false;
+            }
+            cells[place] = (byte) value;
+            bits = (place + 1) << 3;
+            return true;
+        }
+
+        /** Bits of a number, its lowest one first, into bytes from their lowest bit on. */
         void putLowNumber(int number, int width) {
             for (int i = 0; i < width; i++) {
-                putBit((number >> i) & 1, bits & 7);
+                int place = bits >> 3;
+                int shift = bits & 7;
+                if (place < cells.length) {
+                    int before = shift == 0 ? 0 : cells[place];
+                    cells[place] = (byte) (before | (((number >> i) & 1) << shift));
+                }
+                bits++;
             }
         }
 
-        /** A code from its highest bit on, into bytes from their lowest bit on. */
-        void putLowCode(int code, int width) {
-            for (int i = width - 1; i >= 0; i--) {
-                putBit((code >> i) & 1, bits & 7);
-            }
-        }
-
+        /** Bits of a number, its highest one first, into bytes from their highest bit on. */
         void putHighNumber(int number, int width) {
             for (int i = width - 1; i >= 0; i--) {
-                putBit((number >> i) & 1, 7 - (bits & 7));
+                int place = bits >> 3;
+                int shift = 7 - (bits & 7);
+                if (place < cells.length) {
+                    int before = shift == 7 ? 0 : cells[place];
+                    cells[place] = (byte) (before | (((number >> i) & 1) << shift));
+                }
+                bits++;
             }
-        }
-
-        private void putBit(int bit, int shift) {
-            int place = bits >> 3;
-            if (place < cells.length) {
-                int before = (bits & 7) == 0 ? 0 : cells[place];
-                cells[place] = (byte) (before | (bit << shift));
-            }
-            bits++;
         }
     }
 
@@ -468,8 +469,8 @@ public final class FlateFilter {
                 return kind - FIRST_BY_ROWS;
             }
             int best = 0;
-            int least = Integer.MAX_VALUE;
-            for (int way = 0; way <= LAST_WAY; way++) {
+            int least = costOf(from, start, end, 0);
+            for (int way = 1; way <= LAST_WAY; way++) {
                 int cost = costOf(from, start, end, way);
                 if (cost < least) {
                     least = cost;
@@ -533,7 +534,7 @@ public final class FlateFilter {
         private static final int ALL_USED = 1;
 
         private final int[] lengths;
-        private final int[] codes;
+        private final int[] turned;
         private final int[] sorted;
         private final int[] counts;
         private final int[] next;
@@ -542,15 +543,11 @@ public final class FlateFilter {
 
         Codes(int most) {
             lengths = new int[most];
-            codes = new int[most];
+            turned = new int[most];
             sorted = new int[most];
             counts = new int[MOST_LENGTH + 1];
             next = new int[MOST_LENGTH + 1];
             places = new int[MOST_LENGTH + 1];
-        }
-
-        int most() {
-            return lengths.length;
         }
 
         void clear() {
@@ -573,8 +570,9 @@ public final class FlateFilter {
             return symbol >= 0 && symbol < lengths.length ? lengths[symbol] : 0;
         }
 
-        int codeOf(int symbol) {
-            return symbol >= 0 && symbol < codes.length ? codes[symbol] : 0;
+        /** A symbol's code with its highest bit as the lowest, so that it is written as a number is. */
+        int turnedCodeOf(int symbol) {
+            return symbol >= 0 && symbol < turned.length ? turned[symbol] : 0;
         }
 
         /** How many symbols must be told so that the last one with a code is, but so many at least. */
@@ -597,7 +595,7 @@ public final class FlateFilter {
             for (int symbol = 0; symbol < lengths.length; symbol++) {
                 int length = lengths[symbol];
                 if (length > 0 && length <= MOST_LENGTH) {
-                    codes[symbol] = next[length];
+                    turned[symbol] = turn(next[length], length);
                     next[length]++;
                     int place = places[length];
                     places[length]++;
@@ -608,6 +606,14 @@ public final class FlateFilter {
             }
             boolean oneAlone = used == 1 && counts[1] == 1;
             return state == ALL_USED || oneAlone || (mayBeNone && used == 0);
+        }
+
+        private static int turn(int code, int length) {
+            int turned = 0;
+            for (int i = 0; i < length; i++) {
+                turned = (turned << 1) | ((code >> i) & 1);
+            }
+            return turned;
         }
 
         private int countLengths() {
@@ -706,6 +712,27 @@ public final class FlateFilter {
             return teller == REPEAT || teller == FEW_ZEROS ? 3 : 1;
         }
 
+        /** How many more bits length symbol 257 + k has. */
+        static int lengthWidth(int k) {
+            return k < 8 || k == LAST_LENGTH - FIRST_LENGTH ? 0 : k / 4 - 1;
+        }
+
+        static int leastLength(int k, int width) {
+            if (k == LAST_LENGTH - FIRST_LENGTH) {
+                return MOST_MATCH;
+            }
+            return k < 8 ? 3 + k : 3 + ((4 + k % 4) << width);
+        }
+
+        /** How many more bits distance symbol k has. */
+        static int distanceWidth(int k) {
+            return k < 4 ? 0 : k / 2 - 1;
+        }
+
+        static int leastDistance(int k, int width) {
+            return k < 4 ? 1 + k : 1 + ((2 + k % 2) << width);
+        }
+
         static void setFixed(Codes symbols, Codes distances) {
             symbols.setLengths(0, 144, 8);
             symbols.setLengths(144, 256, 9);
@@ -726,6 +753,8 @@ public final class FlateFilter {
         private final Codes distances;
         private final Codes tellers;
         private final int[] told;
+        private int symbolCount;
+        private int distanceCount;
         private Source in;
         private Sink to;
 
@@ -747,8 +776,7 @@ public final class FlateFilter {
             for (int block = 0; block < MOST_BITS && !last; block++) {
                 last = in.lowNumber(1) == 1;
                 int way = in.lowNumber(2);
-                boolean good = way == 0 ? readStored() : readCodes(way) && readSymbols();
-                if (!good) {
+                if (!readBlock(way)) {
                     return false;
                 }
             }
@@ -771,14 +799,15 @@ public final class FlateFilter {
             return highFirst ? one * 256 + other : other * 256 + one;
         }
 
-        /** Makes the codes ready by which the symbols of a block are told. */
-        private boolean readCodes(int way) {
+        private boolean readBlock(int way) {
             switch (way) {
+                case 0:
+                    return readStored();
                 case 1:
                     FlateCodes.setFixed(symbols, distances);
-                    return true;
+                    return readSymbols();
                 case 2:
-                    return readTellers();
+                    return readTellers() && readTold() && useTold() && readSymbols();
                 default:
                     return in.fail();
             }
@@ -795,18 +824,13 @@ public final class FlateFilter {
             }
             for (int i = 0; i < length; i++) {
                 int value = in.nextByte();
-                if (value < 0 || !give(value)) {
+                if (value < 0) {
                     return false;
                 }
+                if (!to.offer(value)) {
+                    return in.fail();
+                }
             }
-            return true;
-        }
-
-        private boolean give(int value) {
-            if (to.isFull()) {
-                return in.fail();
-            }
-            to.put(value);
             return true;
         }
 
@@ -819,69 +843,44 @@ public final class FlateFilter {
                 if (symbol == FlateCodes.END) {
                     return true;
                 }
-                if (symbol > FlateCodes.LAST_LENGTH) {
+                boolean good = symbol < FlateCodes.END ? to.offer(symbol)
+                        : symbol <= FlateCodes.LAST_LENGTH && copyMatch(symbol - FlateCodes.FIRST_LENGTH);
+                if (!good) {
                     return in.fail();
-                }
-                boolean given = symbol < FlateCodes.END
-                        ? give(symbol) : copyMatch(symbol - FlateCodes.FIRST_LENGTH);
-                if (!given) {
-                    return false;
                 }
             }
             return in.fail();
         }
 
+        /** Copies a match; false is a fault at the last bit taken, if the bytes have not ended. */
         private boolean copyMatch(int k) {
-            int length = readLength(k);
-            if (length < 0) {
+            int lengthWidth = FlateCodes.lengthWidth(k);
+            int moreLength = in.lowNumber(lengthWidth);
+            if (moreLength < 0) {
                 return false;
             }
             int symbol = distances.read(in);
-            if (symbol < 0) {
+            if (symbol < 0 || symbol > FlateCodes.LAST_DISTANCE) {
                 return false;
             }
-            if (symbol > FlateCodes.LAST_DISTANCE) {
-                return in.fail();
-            }
-            int distance = readDistance(symbol);
-            if (distance < 0) {
+            int distanceWidth = FlateCodes.distanceWidth(symbol);
+            int moreDistance = in.lowNumber(distanceWidth);
+            int distance = FlateCodes.leastDistance(symbol, distanceWidth) + moreDistance;
+            if (moreDistance < 0 || distance > to.size()) {
                 return false;
             }
-            if (distance > to.size()) {
-                return in.fail();
-            }
+            int length = FlateCodes.leastLength(k, lengthWidth) + moreLength;
             for (int i = 0; i < length; i++) {
-                if (!give(to.at(to.size() - distance))) {
+                if (!to.offer(to.at(to.size() - distance))) {
                     return false;
                 }
             }
             return true;
         }
 
-        private int readLength(int k) {
-            if (k < 8) {
-                return 3 + k;
-            }
-            if (k == 28) {
-                return FlateCodes.MOST_MATCH;
-            }
-            int width = k / 4 - 1;
-            int more = in.lowNumber(width);
-            return more < 0 ? -1 : 3 + ((4 + k % 4) << width) + more;
-        }
-
-        private int readDistance(int k) {
-            if (k < 4) {
-                return 1 + k;
-            }
-            int width = k / 2 - 1;
-            int more = in.lowNumber(width);
-            return more < 0 ? -1 : 1 + ((2 + k % 2) << width) + more;
-        }
-
         private boolean readTellers() {
-            int symbolCount = in.lowNumber(5) + 257;
-            int distanceCount = in.lowNumber(5) + 1;
+            symbolCount = in.lowNumber(5) + 257;
+            distanceCount = in.lowNumber(5) + 1;
             int tellerCount = in.lowNumber(4) + 4;
             if (in.isFaulty()) {
                 return false;
@@ -894,14 +893,11 @@ public final class FlateFilter {
                 }
                 tellers.setLength(FlateCodes.tellerAt(i), length);
             }
-            if (!tellers.arrange(false)) {
-                return in.fail();
-            }
-            return readTold(Math.min(symbolCount + distanceCount, told.length))
-                    && useTold(symbolCount, distanceCount);
+            return tellers.arrange(false) || in.fail();
         }
 
-        private boolean readTold(int total) {
+        private boolean readTold() {
+            int total = Math.min(symbolCount + distanceCount, told.length);
             int place = 0;
             for (int i = 0; i < total && place < total; i++) {
                 int teller = tellers.read(in);
@@ -923,13 +919,15 @@ public final class FlateFilter {
                 if (teller == FlateCodes.REPEAT && place > 0) {
                     length = told[place - 1];
                 }
-                Arrays.fill(told, place, place + times, length);
-                place += times;
+                int end = place + times;
+                for (; place < end; place++) {
+                    told[place] = length;
+                }
             }
             return true;
         }
 
-        private boolean useTold(int symbolCount, int distanceCount) {
+        private boolean useTold() {
             symbols.clear();
             distances.clear();
             for (int i = 0; i < symbolCount && i < told.length; i++) {
@@ -1071,10 +1069,13 @@ public final class FlateFilter {
         private final int[] distanceCounts;
         private final int[] groupCounts;
         private final int[] groupOf;
+        private final int[] groupLengths;
         private final int[] lengths;
         private final int[] told;
         private final int[] toldMore;
         private int toldCount;
+        private int symbolCount;
+        private int distanceCount;
 
         FlatePacker(Codes symbols, Codes distances, Codes tellers) {
             this.symbols = symbols;
@@ -1085,6 +1086,7 @@ public final class FlateFilter {
             distanceCounts = new int[FlateCodes.DISTANCES];
             groupCounts = new int[FlateCodes.SYMBOLS];
             groupOf = new int[FlateCodes.SYMBOLS];
+            groupLengths = new int[FlateCodes.SYMBOLS];
             lengths = new int[FlateCodes.SYMBOLS + FlateCodes.DISTANCES];
             told = new int[FlateCodes.SYMBOLS + FlateCodes.DISTANCES];
             toldMore = new int[FlateCodes.SYMBOLS + FlateCodes.DISTANCES];
@@ -1099,8 +1101,9 @@ public final class FlateFilter {
                 return;
             }
             int best = STORED;
-            int least = Integer.MAX_VALUE;
-            for (int tried = STORED; tried <= TOLD; tried++) {
+            writeLevel(data, count, best, to);
+            int least = to.size();
+            for (int tried = FIXED; tried <= TOLD; tried++) {
                 writeLevel(data, count, tried, to);
                 if (to.size() < least) {
                     least = to.size();
@@ -1123,6 +1126,8 @@ public final class FlateFilter {
                     FlateCodes.setFixed(symbols, distances);
                 } else {
                     makeCodes();
+                    tellLengths();
+                    makeTellers();
                     writeTellers(to);
                 }
                 writeMatches(to);
@@ -1161,7 +1166,7 @@ public final class FlateFilter {
         }
 
         private static void writeCode(Codes codes, int symbol, Sink to) {
-            to.putLowCode(codes.codeOf(symbol), codes.lengthOf(symbol));
+            to.putLowNumber(codes.turnedCodeOf(symbol), codes.lengthOf(symbol));
         }
 
         /** How many of the lowest bits of a number are told behind its symbol. */
@@ -1216,33 +1221,31 @@ public final class FlateFilter {
         private void makeLengths(int[] counts, Codes codes) {
             int size = Math.min(counts.length, groupCounts.length);
             int groups = 0;
-            codes.clear();
             for (int symbol = 0; symbol < size; symbol++) {
                 groupCounts[symbol] = counts[symbol];
                 groupOf[symbol] = symbol;
+                groupLengths[symbol] = 0;
                 if (counts[symbol] > 0) {
                     groups++;
-                    codes.setLength(symbol, 1);
                 }
             }
-            if (groups < 2) {
-                return;
-            }
-            codes.clear();
-            for (int left = groups; left > 1; left--) {
+            boolean alone = groups == 1;
+            for (; groups > 1; groups--) {
                 int least = leastGroup(size, -1);
-                int other = leastGroup(size, least);
-                joinGroups(size, least, other, codes);
+                joinGroups(size, least, leastGroup(size, least));
+            }
+            for (int symbol = 0; symbol < size; symbol++) {
+                codes.setLength(symbol, alone && counts[symbol] > 0 ? 1 : groupLengths[symbol]);
             }
         }
 
         /** The group of the least count but one; of alike ones that with the greatest symbol. */
         private int leastGroup(int size, int but) {
             int least = -1;
-            int leastCount = Integer.MAX_VALUE;
+            int leastCount = 0;
             for (int group = size - 1; group >= 0 && group < groupCounts.length; group--) {
                 int count = groupCounts[group];
-                if (count > 0 && count < leastCount && group != but) {
+                if (count > 0 && group != but && (least < 0 || count < leastCount)) {
                     least = group;
                     leastCount = count;
                 }
@@ -1250,7 +1253,7 @@ public final class FlateFilter {
             return least;
         }
 
-        private void joinGroups(int size, int one, int other, Codes codes) {
+        private void joinGroups(int size, int one, int other) {
             int kept = Math.max(one, other);
             int gone = Math.min(one, other);
             if (gone < 0 || kept >= groupCounts.length) {
@@ -1261,54 +1264,31 @@ public final class FlateFilter {
             for (int symbol = 0; symbol < size && symbol < groupOf.length; symbol++) {
                 if (groupOf[symbol] == kept || groupOf[symbol] == gone) {
                     groupOf[symbol] = kept;
-                    codes.setLength(symbol, codes.lengthOf(symbol) + 1);
+                    groupLengths[symbol]++;
                 }
             }
         }
 
-        private void writeTellers(Sink to) {
-            int symbolCount = symbols.toldSymbols(257);
-            int distanceCount = distances.toldSymbols(1);
-            for (int i = 0; i < symbolCount && i < lengths.length; i++) {
-                lengths[i] = symbols.lengthOf(i);
+        private void tellLengths() {
+            symbolCount = symbols.toldSymbols(257);
+            distanceCount = distances.toldSymbols(1);
+            int total = Math.min(symbolCount + distanceCount, lengths.length);
+            for (int i = 0; i < total; i++) {
+                lengths[i] = i < symbolCount ? symbols.lengthOf(i) : distances.lengthOf(i - symbolCount);
             }
-            for (int i = 0; i < distanceCount && symbolCount + i < lengths.length; i++) {
-                lengths[symbolCount + i] = distances.lengthOf(i);
-            }
-            tellLengths(Math.min(symbolCount + distanceCount, lengths.length));
-            makeTellers();
-            int tellerCount = 4;
-            for (int i = tellerCount; i < FlateCodes.TELLERS; i++) {
-                if (tellers.lengthOf(FlateCodes.tellerAt(i)) > 0) {
-                    tellerCount = i + 1;
-                }
-            }
-            to.putLowNumber(symbolCount - 257, 5);
-            to.putLowNumber(distanceCount - 1, 5);
-            to.putLowNumber(tellerCount - 4, 4);
-            for (int i = 0; i < tellerCount; i++) {
-                to.putLowNumber(tellers.lengthOf(FlateCodes.tellerAt(i)), 3);
-            }
-            for (int i = 0; i < toldCount && i < told.length; i++) {
-                writeCode(tellers, told[i], to);
-                to.putLowNumber(toldMore[i], FlateCodes.tellerBits(told[i]));
-            }
-        }
-
-        private void tellLengths(int total) {
             toldCount = 0;
             int place = 0;
             for (int i = 0; i < total && place < total; i++) {
                 int length = lengths[place];
                 int run = runOf(place, total);
                 if (length == 0 && run >= 11) {
-                    place += tell(FlateCodes.MANY_ZEROS, Math.min(run, 138));
+                    place += tell(FlateCodes.MANY_ZEROS, Math.min(run, 138), 11);
                 } else if (length == 0 && run >= 3) {
-                    place += tell(FlateCodes.FEW_ZEROS, run);
+                    place += tell(FlateCodes.FEW_ZEROS, run, 3);
                 } else if (length > 0 && run >= 3 && place > 0 && lengths[place - 1] == length) {
-                    place += tell(FlateCodes.REPEAT, Math.min(run, 6));
+                    place += tell(FlateCodes.REPEAT, Math.min(run, 6), 3);
                 } else {
-                    place += tell(length, 1);
+                    place += tell(length, 1, 1);
                 }
             }
         }
@@ -1321,10 +1301,10 @@ public final class FlateFilter {
             return end - place;
         }
 
-        private int tell(int teller, int times) {
+        private int tell(int teller, int times, int least) {
             if (toldCount < told.length) {
                 told[toldCount] = teller;
-                toldMore[toldCount] = times - FlateCodes.tellerLeast(teller);
+                toldMore[toldCount] = times - least;
                 toldCount++;
             }
             return times;
@@ -1353,6 +1333,25 @@ public final class FlateFilter {
                 }
             }
             tellers.arrange(false);
+        }
+
+        private void writeTellers(Sink to) {
+            int tellerCount = 4;
+            for (int i = tellerCount; i < FlateCodes.TELLERS; i++) {
+                if (tellers.lengthOf(FlateCodes.tellerAt(i)) > 0) {
+                    tellerCount = i + 1;
+                }
+            }
+            to.putLowNumber(symbolCount - 257, 5);
+            to.putLowNumber(distanceCount - 1, 5);
+            to.putLowNumber(tellerCount - 4, 4);
+            for (int i = 0; i < tellerCount; i++) {
+                to.putLowNumber(tellers.lengthOf(FlateCodes.tellerAt(i)), 3);
+            }
+            for (int i = 0; i < toldCount && i < told.length; i++) {
+                writeCode(tellers, told[i], to);
+                to.putLowNumber(toldMore[i], FlateCodes.tellerBits(told[i]));
+            }
         }
     }
 
@@ -1409,7 +1408,7 @@ public final class FlateFilter {
                 }
                 start = to.size();
                 size = code < ANEW ? 1 : sizeOf(code, entry);
-                if (size == 0 || !giveCode(code, size, in, to)) {
+                if (size == 0 || !giveCode(code, size, to)) {
                     in.fail();
                     return;
                 }
@@ -1420,13 +1419,12 @@ public final class FlateFilter {
             return code >= FIRST_ENTRY && code < entry && code < sizes.length ? sizes[code] : 0;
         }
 
-        private boolean giveCode(int code, int size, Source in, Sink to) {
+        private boolean giveCode(int code, int size, Sink to) {
+            boolean isEntry = code >= FIRST_ENTRY && code < starts.length;
             for (int i = 0; i < size; i++) {
-                if (to.isFull()) {
-                    return in.fail();
+                if (!to.offer(isEntry ? to.at(starts[code] + i) : code)) {
+                    return false;
                 }
-                boolean isByte = code < ANEW || code >= starts.length;
-                to.put(isByte ? code : to.at(starts[code] + i));
             }
             return true;
         }
@@ -1534,11 +1532,10 @@ public final class FlateFilter {
                     if (value < 0) {
                         return;
                     }
-                    if (to.isFull()) {
+                    if (!to.offer(value)) {
                         in.fail();
                         return;
                     }
-                    to.put(value);
                 }
             }
         }
@@ -1592,21 +1589,17 @@ public final class FlateFilter {
                 }
                 if (waiting < 0) {
                     waiting = half;
-                } else {
-                    if (!give(16 * waiting + half, in, to) || ends) {
-                        return;
-                    }
-                    waiting = -1;
+                    continue;
                 }
+                if (!to.offer(16 * waiting + half)) {
+                    in.fail();
+                    return;
+                }
+                if (ends) {
+                    return;
+                }
+                waiting = -1;
             }
-        }
-
-        private static boolean give(int value, Source in, Sink to) {
-            if (to.isFull()) {
-                return in.fail();
-            }
-            to.put(value);
-            return true;
         }
 
         static void writeFives(byte[] data, int count, Sink to) {
@@ -1652,51 +1645,43 @@ public final class FlateFilter {
                     endFives(value, waiting, in, to);
                     return;
                 }
-                boolean good = true;
+                boolean good = sign <= LAST;
                 if (sign == 'z') {
-                    good = waiting == 0 ? giveFour(0, 4, in, to) : in.fail();
-                } else if (sign > LAST) {
-                    good = in.fail();
-                } else {
+                    good = waiting == 0 && giveFour(0, 4, to);
+                } else if (good) {
                     value = BASE * value + sign - FIRST;
                     waiting++;
-                    if (waiting == 5) {
-                        good = giveFour(value, 4, in, to);
-                        value = 0;
-                        waiting = 0;
-                    }
+                }
+                if (waiting == 5) {
+                    good = giveFour(value, 4, to);
+                    value = 0;
+                    waiting = 0;
                 }
                 if (!good) {
+                    in.fail();
                     return;
                 }
             }
         }
 
         private static void endFives(long value, int waiting, Source in, Sink to) {
-            if (waiting == 1) {
-                in.fail();
-                return;
-            }
             long filled = value;
             for (int i = waiting; i < 5; i++) {
                 filled = BASE * filled + LAST - FIRST;
             }
-            if (waiting > 1 && !giveFour(filled, waiting - 1, in, to)) {
-                return;
-            }
-            int sign = in.nextByte();
-            if (sign >= 0 && sign != '>') {
+            boolean good = waiting == 0 || (waiting > 1 && giveFour(filled, waiting - 1, to));
+            if (!good || in.nextByte() != '>') {
                 in.fail();
             }
         }
 
-        /** So many of the four bytes of a number, highest first. */
-        private static boolean giveFour(long value, int wanted, Source in, Sink to) {
+        /** So many of the four bytes of a number, highest first; false if it or the out is too great. */
+        private static boolean giveFour(long value, int wanted, Sink to) {
             if (value > MOST_VALUE) {
-                return in.fail();
+                return false;
             }
             for (int i = 0; i < wanted; i++) {
-                if (!give((int) (value >> (24 - 8 * i)) & 255, in, to)) {
+                if (!to.offer((int) (value >> (24 - 8 * i)) & 255)) {
                     return false;
                 }
             }
