@@ -424,7 +424,7 @@ public final class FlateFilter {
         int filter(byte[] from, int count, byte[] to) {
             int size = Math.min(count, from.length);
             int made = 0;
-            for (int start = 0; start < size; start += rowBytes) {
+            for (int start = 0; start < size; start += Math.max(1, rowBytes)) {
                 int end = Math.min(size, start + rowBytes);
                 int way = wayOf(from, start, end);
                 if (kind != BEFORE_ONLY && made < to.length) {
@@ -1361,7 +1361,7 @@ public final class FlateFilter {
         private static final int END = 257;
         private static final int FIRST_ENTRY = 258;
         private static final int ENTRIES = 4096;
-        // A code takes nine bits at least, and a byte packed makes one code at most.
+        // A code takes nine bits at least; one more finds that the bytes have ended.
         private static final int MOST_CODES = MOST_BYTES * 8 / 9 + 1;
 
         // Unpacking, an entry is a piece of what came: its first place and its length.
@@ -1400,8 +1400,7 @@ public final class FlateFilter {
                     size = 0;
                     continue;
                 }
-                boolean comes = size > 0 && entry < ENTRIES;
-                if (comes) {
+                if (size > 0 && entry < ENTRIES) {
                     starts[entry] = start;
                     sizes[entry] = size + 1;
                     entry++;

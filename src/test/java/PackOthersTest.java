@@ -2,6 +2,7 @@
 public final class PackOthersTest {
     public static void main(String[] args) {
         dictionary();
+        usedObject();
         widths();
         runs();
         halves();
@@ -16,9 +17,28 @@ public final class PackOthersTest {
         // The example of the format's own book: 256 45 258 258 65 259 66 257.
         Check.packs("dictionary of the book", 1, 0, Check.bytes(45, 45, 45, 45, 45, 65, 45, 45, 45, 66),
                 "800b6050220c0c8501");
+        Check.packs("entries that begin with 0", 1, 0, Check.filled(7, 0),
+                Check.hex(Bits.dictionary().high(256, 9).high(0, 9).high(258, 9).high(259, 9).high(0, 9)
+                        .high(257, 9).done()));
         Check.packs("the entry that comes with its code", 1, 0, Check.text("aaaaaa"),
                 Check.hex(Bits.dictionary().high(256, 9).high(97, 9).high(258, 9).high(259, 9)
                         .high(257, 9).done()));
+    }
+
+    /** What stood in the rows of an object before does not show. */
+    private static void usedObject() {
+        FlateFilter x = Check.with(Check.bytes(1, 2, 2, 255, 255, 255, 255, 255));
+        for (int round = 0; round < 2; round++) {
+            Check.same("halves", x.pack(3, 0), 17);
+            Check.same("dictionary", x.pack(1, 0), 9);
+            Check.same("dictionary", Check.hexOf(x), Check.hex(Bits.dictionary().high(256, 9).high(1, 9)
+                    .high(2, 9).high(2, 9).high(255, 9).high(261, 9).high(261, 9).high(257, 9).done()));
+        }
+        FlateFilter y = Check.with(Check.bytes(1, 1, 2, 128));
+        y.unpack(2);
+        y.chain(-1);
+        Check.same("1, 2, where a 2 stood behind", y.pack(2, 0), 4);
+        Check.same("1, 2, where a 2 stood behind", Check.hexOf(y), "01010280");
     }
 
     /** The n-th code behind 256 would bring entry 256 + n, which sets its bits. */

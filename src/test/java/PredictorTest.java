@@ -97,7 +97,8 @@ public final class PredictorTest {
     }
 
     private static void best() {
-        filters("15: the least sum", 15, 1, 8, 4, Check.bytes(10, 11, 12, 13, 11, 12, 13, 14), "010a010101" + "0201010101");
+        filters("15: the least sum", 15, 1, 8, 4, Check.bytes(10, 11, 12, 13, 11, 12, 13, 14),
+                "010a010101" + "0201010101");
         filters("15: the first of alike ones", 15, 1, 8, 3, Check.bytes(0, 0, 0, 0, 0, 0), "00000000" + "00000000");
         // As it is 56 and 55; less the one before 56 and 1. Then by 2 it is 1 and 1, by 4 1 and 0.
         filters("15: above 127", 15, 1, 8, 2, Check.bytes(200, 201, 199, 200), "01c801" + "04ff00");
@@ -116,8 +117,8 @@ public final class PredictorTest {
     }
 
     private static void unpacking() {
-        unpacks("each row has its own", 10, 2, Check.bytes(0, 1, 2, 1, 1, 2, 2, 1, 1, 3, 2, 2, 4, 1, 1), "0102" + "0103" + "0204"
-                + "0305" + "0406");
+        unpacks("each row has its own", 10, 2, Check.bytes(0, 1, 2, 1, 1, 2, 2, 1, 1, 3, 2, 2, 4, 1, 1),
+                "0102" + "0103" + "0204" + "0305" + "0406");
         unpacks("above 4 as 0", 14, 2, Check.bytes(5, 1, 2, 255, 3, 4), "01020304");
         unpacks("the last row shorter", 12, 3, Check.bytes(2, 1, 2, 3, 2, 1), "01020302");
         unpacks("a row of nothing", 12, 2, Check.bytes(2, 1, 2, 2), "0102");

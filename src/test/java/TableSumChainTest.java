@@ -10,6 +10,7 @@ public final class TableSumChainTest {
         moveOnly();
         chain();
         chainRefused();
+        chainJustFits();
         chainOfMuch();
         Check.end();
     }
@@ -125,6 +126,16 @@ public final class TableSumChainTest {
         Check.same("the out stays", Check.hexOf(x), Check.hex(Check.text("616263>")));
         Check.same("the bytes stay", x.pack(3, 0), 7);
         Check.same("the bytes stay", Check.hexOf(x), Check.hex(Check.text("616263>")));
+    }
+
+    private static void chainJustFits() {
+        FlateFilter x = Check.with(11, Check.text("ab"));
+        x.pack(3, 0);
+        Check.same("just as long as the bound", x.chain(3), 11);
+        FlateFilter y = Check.with(10, Check.text("ab"));
+        y.pack(3, 0);
+        Check.refused("one longer than the bound", UnsupportedOperationException.class, () -> y.chain(3));
+        Check.refused("the exception named first", IllegalArgumentException.class, () -> y.chain(6));
     }
 
     private static void chainOfMuch() {

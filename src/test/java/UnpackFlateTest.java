@@ -25,6 +25,9 @@ public final class UnpackFlateTest {
     private static void frame() {
         Check.unpacks("none", 4000, 0, new byte[0], -1, "");
         Check.unpacks("first byte wrong", 4000, 0, Check.bytes(121, 1, 3, 0), -1, "");
+        Check.unpacks("first byte 0", 4000, 0, Check.bytes(0, 1, 3, 0), -1, "");
+        Check.unpacks("second byte 0", 4000, 0, Check.bytes(120, 0, 3, 0), -2, "");
+        Check.unpacks("first byte wrong and alone", 4000, 0, Check.bytes(1), -1, "");
         Check.unpacks("first byte alone", 4000, 0, Check.bytes(120), -2, "");
         Check.unpacks("second byte wrong", 4000, 0, Check.bytes(120, 156, 3, 0), -2, "");
         Check.unpacks("no block", 4000, 0, Check.bytes(120, 1), -3, "");
@@ -43,6 +46,7 @@ public final class UnpackFlateTest {
         Check.unpacks("turned length wrong, low", 4000, 0, Check.fromHex("7801010100fdff6100620062"), -7, "");
         Check.unpacks("turned length wrong, high", 4000, 0, Check.fromHex("7801010100fefe6100620062"), -7, "");
         Check.unpacks("turned length cut", 4000, 0, Check.fromHex("7801010100fd"), -7, "");
+        Check.unpacks("the greatest length, cut", 4000, 0, Check.fromHex("780101ffff000061"), -9, "61");
         Check.unpacks("stored bytes cut", 4000, 0, Check.fromHex("7801010300fcff6162"), -10, "6162");
         Check.unpacks("the rest of the byte is passed", 4000, 0,
                 Check.fromHex("7801 f9 0100feff 61 00620062"), 1, "61");
@@ -152,11 +156,49 @@ public final class UnpackFlateTest {
         Bits noEnd = zeros(zeros(four(0, 0), 97).raw("01 01"), 138);
         flate("256 may be none, then only the bytes' end ends it", zeros(noEnd, 19).raw("00 00").raw("0 1 0 1 1 1"),
                 -1 - 16, "616261626262");
+        // Behind 257 lengths one is left, and 18 tells eleven zeros, though the codes would be good.
+        Bits beyond = zeros(zeros(zeros(four(0, 0), 97).raw("01"), 138), 20).raw("01");
+        flate("more than there are, behind good ones", zeros(beyond, 11).raw("0 0 1").align().low(0, 32), -1 - 15, "");
+        toldTwice();
+        longestCodes();
         // 288 symbols and 32 distances may be told; 286, 287, 30, 31 are none when they come.
         Bits many = zeros(zeros(zeros(four(31, 31), 97).raw("10"), 138), 20).raw("10");
         many = zeros(many, 29).raw("10 10");
         many = zeros(many, 30).raw("01 01").raw("00 10").low(0, 32);
         flate("symbol 286 by told codes", many, -1 - 18, "61");
+    }
+
+    /** The second block has fewer lengths than the first; none of these may stay. */
+    private static void toldTwice() {
+        Bits first = Bits.flate().low(0, 1).low(2, 2);
+        tellAThree(first, 1).raw("0").raw("1");
+        Bits second = first.low(1, 1).low(2, 2);
+        tellAThree(second, 0).raw("0 0").raw("1").align().low(0, 32);
+        flate("told twice", second, 3, "616161");
+    }
+
+    /** Symbols a, 256 by one bit; two distances by one bit each, or one alone. */
+    private static Bits tellAThree(Bits stream, int b) {
+        stream.low(0, 5).low(b, 5).low(14, 4);
+        for (int length : new int[] {0, 0, 2, 2, 0, 0, 0, 0, 0, 0, 0, 0, 0, 0, 0, 2, 0, 2}) {
+            stream.low(length, 3);
+        }
+        return zeros(zeros(zeros(stream, 97).raw("01"), 138), 20).raw("01").raw(b == 1 ? "01 01" : "01");
+    }
+
+    /** Symbols 0 .. 14 have 1 .. 15 bits, 256 has 15: codes 0, 10, 110, .., by tellers of four bits and 18. */
+    private static void longestCodes() {
+        Bits stream = head(0, 0, 0, 0, 1, 5, 5, 5, 5, 5, 5, 5, 5, 5, 5, 5, 5, 5, 5, 5, 5);
+        for (int length = 1; length <= 15; length++) {
+            stream.raw("1").high(length, 4);
+        }
+        stream.raw("0").low(138 - 11, 7).raw("0").low(103 - 11, 7).raw("1").high(15, 4).raw("1").high(0, 4);
+        StringBuilder due = new StringBuilder();
+        for (int symbol = 0; symbol < 15; symbol++) {
+            stream.raw("1".repeat(symbol)).raw("0");
+            due.append(String.format("%02x", symbol));
+        }
+        flate("codes of 15 bits", stream.raw("1".repeat(15)).align().low(0, 32), 15, due.toString());
     }
 
     private static void loneCodes() {
@@ -194,14 +236,30 @@ public final class UnpackFlateTest {
         Check.same("packing leaves it", x.differs() ? 1 : 0, 1);
         Check.refused("a wrong kind", IllegalArgumentException.class, () -> x.unpack(5));
         Check.same("a call that throws leaves it", x.differs() ? 1 : 0, 1);
-        x.unpack(2);
-        Check.same("another kind", x.differs() ? 1 : 0, 0);
+        for (int kind = 1; kind <= 4; kind++) {
+            x.unpack(kind);
+            Check.same("kind " + kind + " never differs", x.differs() ? 1 : 0, 0);
+            x.unpack(0);
+            Check.same("it differs again", x.differs() ? 1 : 0, 1);
+        }
+        x.predictor(12, 1, 8, 1);
+        x.unpack(0);
+        Check.same("it differs with a predictor", x.differs() ? 1 : 0, 1);
         FlateFilter good = Check.with(Check.fromHex("78014b040000620062"));
         good.unpack(0);
         Check.same("the sum is right", good.differs() ? 1 : 0, 0);
-        FlateFilter cut = Check.with(Check.fromHex("78014b0400996200"));
+        FlateFilter cut = Check.with(Check.fromHex("78014b0400996201"));
         cut.unpack(0);
         Check.same("a cut sum does not differ", cut.differs() ? 1 : 0, 0);
+        FlateFilter zero = Check.with(Check.fromHex("78014b040000000000"));
+        zero.unpack(0);
+        Check.same("a sum of 0 differs", zero.differs() ? 1 : 0, 1);
+        FlateFilter low = Check.with(Check.fromHex("78014b040000620000"));
+        low.unpack(0);
+        Check.same("a lower half of 0 differs", low.differs() ? 1 : 0, 1);
+        FlateFilter none = Check.with(Check.fromHex("7801010000ffff00000002"));
+        none.unpack(0);
+        Check.same("of nothing it differs", none.differs() ? 1 : 0, 1);
         for (int place = 5; place < 9; place++) {
             byte[] stream = Check.fromHex("78014b040000620062");
             stream[place] ^= (byte) 128;

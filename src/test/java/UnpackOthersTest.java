@@ -43,6 +43,11 @@ public final class UnpackOthersTest {
         dictionary("256 begins anew", Bits.dictionary().high(97, 9).high(98, 9).high(256, 9).high(99, 9)
                 .high(100, 9).high(258, 9).high(257, 9), 6, "616263646364");
         dictionary("256 twice", Bits.dictionary().high(256, 9).high(256, 9).high(98, 9).high(257, 9), 1, "62");
+        Bits anew = Bits.dictionary();
+        for (int i = 0; i < 711; i++) {
+            anew.high(256, 9);
+        }
+        dictionary("800 bytes of 256", anew, -1 - 800, "");
         Check.unpacks("entry beyond the bound", 2, 1,
                 Bits.dictionary().high(97, 9).high(258, 9).high(257, 9).done(), -3, "6161");
         Check.unpacks("byte beyond the bound", 1, 1,
