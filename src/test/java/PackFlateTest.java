@@ -34,7 +34,7 @@ public final class PackFlateTest {
                         .done(0x14e103cbL)));
         Check.packs("level 1, two bytes alike are no match", 0, 1, Check.text("abab"),
                 Check.hex(Bits.flate().low(1, 1).low(1, 2).fixed('a').fixed('b').fixed('a').fixed('b')
-                        .fixed(256).done(sumOf(Check.text("abab")))));
+                        .fixed(256).done(Oracle.sum(Check.text("abab")))));
         Check.packs("level 1, 258 and then 3 more", 0, 1, Check.filled(262, 'a'),
                 Check.hex(Bits.flate().low(1, 1).low(1, 2).fixed('a').fixed(285).high(0, 5)
                         .fixed(257).high(0, 5).fixed(256).done(0x02786347L)));
@@ -46,24 +46,14 @@ public final class PackFlateTest {
                 Check.text("abcXbcdYabcd"),
                 Check.hex(Bits.flate().low(1, 1).low(1, 2).fixed('a').fixed('b').fixed('c').fixed('X')
                         .fixed('b').fixed('c').fixed('d').fixed('Y').fixed(257).high(5, 5).low(1, 1)
-                        .fixed('d').fixed(256).done(sumOf(Check.text("abcXbcdYabcd")))));
+                        .fixed('d').fixed(256).done(Oracle.sum(Check.text("abcXbcdYabcd")))));
         Check.packs("level 1, the least distance of two", 0, 1, Check.text("abc.abc,abc"),
                 Check.hex(Bits.flate().low(1, 1).low(1, 2).fixed('a').fixed('b').fixed('c').fixed('.')
                         .fixed(257).high(3, 5).fixed(',').fixed(257).high(3, 5).fixed(256)
-                        .done(sumOf(Check.text("abc.abc,abc")))));
+                        .done(Oracle.sum(Check.text("abc.abc,abc")))));
         Check.packs("level 1, bytes of nine bits", 0, 1, Check.bytes(143, 144, 255),
                 Check.hex(Bits.flate().low(1, 1).low(1, 2).fixed(143).fixed(144).fixed(255).fixed(256)
-                        .done(sumOf(Check.bytes(143, 144, 255)))));
-    }
-
-    private static long sumOf(byte[] bytes) {
-        long a = 1;
-        long b = 0;
-        for (byte c : bytes) {
-            a = (a + (c & 255)) % 65521;
-            b = (b + a) % 65521;
-        }
-        return b * 65536 + a;
+                        .done(Oracle.sum(Check.bytes(143, 144, 255)))));
     }
 
     private static void told() {
@@ -89,7 +79,7 @@ public final class PackFlateTest {
                 .low(0, 3).low(0, 3).low(0, 3).low(0, 3).low(3, 3).low(0, 3).low(2, 3).low(0, 3).low(2, 3)
                 .raw("111").low(97 - 11, 7).raw("10 110 01").raw("111").low(127, 7).raw("111").low(7, 7)
                 .raw("110 00")
-                .raw("10 110 0 0 111").done(sumOf(Check.text("abcc"))));
+                .raw("10 110 0 0 111").done(Oracle.sum(Check.text("abcc"))));
     }
 
     private static void least() {

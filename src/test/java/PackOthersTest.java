@@ -37,6 +37,8 @@ public final class PackOthersTest {
         FlateFilter y = Check.with(Check.bytes(1, 1, 2, 128));
         y.unpack(2);
         y.chain(-1);
+        y.pack(4, 0);
+        Check.same("two, filled up with 0", Check.hexOf(y), Check.hex(Check.text("!<N~>")));
         Check.same("1, 2, where a 2 stood behind", y.pack(2, 0), 4);
         Check.same("1, 2, where a 2 stood behind", Check.hexOf(y), "01010280");
     }
@@ -97,6 +99,7 @@ public final class PackOthersTest {
         Check.packs("one", 4, 0, Check.text("M"), Check.hex(Check.text("9`~>")));
         Check.packs("two", 4, 0, Check.text("Ma"), Check.hex(Check.text("9jn~>")));
         Check.packs("three", 4, 0, Check.text("Man"), Check.hex(Check.text("9jqo~>")));
+        Check.packs("three, filled up with 0", 4, 0, Check.bytes(0, 0, 84), Check.hex(Check.text("!!#s~>")));
         Check.packs("four 0", 4, 0, Check.filled(4, 0), Check.hex(Check.text("z~>")));
         Check.packs("seven 0", 4, 0, Check.filled(7, 0), Check.hex(Check.text("z!!!!~>")));
         Check.packs("the greatest", 4, 0, Check.filled(4, 255), Check.hex(Check.text("s8W-!~>")));

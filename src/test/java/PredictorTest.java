@@ -60,21 +60,13 @@ public final class PredictorTest {
         x.predictor(kind, colours, bits, columns);
         x.pack(0, 0);
         Check.same(what, inner(x), due);
-        Check.same(what + ": its sum is of what was packed", Check.hexOf(x).endsWith(sumOf(due)) ? 1 : 0, 1);
+        String all = Check.hexOf(x);
+        Check.same(what + ": its sum is of what was packed", all.substring(all.length() - 8),
+                String.format("%08x", Oracle.sum(Check.fromHex(due))));
         x.chain(-1);
         Check.same(what + ": back", x.unpack(0), data.length);
         Check.same(what + ": back", Check.hexOf(x), Check.hex(data));
         Check.same(what + ": the sum does not differ", x.differs() ? 1 : 0, 0);
-    }
-
-    private static String sumOf(String hex) {
-        long a = 1;
-        long b = 0;
-        for (byte c : Check.fromHex(hex)) {
-            a = (a + (c & 255)) % 65521;
-            b = (b + a) % 65521;
-        }
-        return String.format("%08x", b * 65536 + a);
     }
 
     private static void ofEachKind() {

@@ -110,6 +110,9 @@ public final class UnpackOthersTest {
         halves("end", ">", 0, "");
         halves("great and small", "0aF9fF>", 3, "0af9ff");
         halves("one alone", "417>", 2, "4170");
+        halves("a 0 alone", "0>", 1, "00");
+        halves("800 blanks", " ".repeat(800), -1 - 800, "");
+        halves("the end as the 800th", " ".repeat(799) + ">", 0, "");
         halves("blanks", " 4\n1\t4 \0002 >xx", 2, "4142");
         halves("a blank before the end", "4 >", 1, "40");
         halves("wrong", "41G1>", -3, "41");
@@ -136,6 +139,8 @@ public final class UnpackOthersTest {
         fives("three alone", "9jn~>", 2, "4d61");
         fives("two alone", "9`~>", 1, "4d");
         fives("one alone", "9jqo^9~>", -7, "4d616e20");
+        fives("800 blanks", " ".repeat(800), -1 - 800, "");
+        fives("the end as the 800th", " ".repeat(798) + "~>", 0, "");
         fives("z", "z9jqo^z~>", 12, "000000004d616e2000000000");
         fives("z within", "9jz~>", -3, "");
         fives("blanks", "9 j\nq\0o ^ ~>", 4, "4d616e20");
