@@ -54,6 +54,10 @@ final class Bits {
         return symbol < 280 ? high(symbol - 256, 7) : high(192 + symbol - 280, 8);
     }
 
+    int size() {
+        return bits.length();
+    }
+
     byte[] done() {
         align();
         byte[] all = new byte[bits.length() / 8];

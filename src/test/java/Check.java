@@ -1,92 +1,72 @@
 import java.util.Arrays;
 
-/** What the tests share: comparisons that are counted, and short ways to fill and read an object. */
+/** What the tests share: comparisons that are counted, and short ways to write bytes. */
 final class Check {
     interface Call {
         long answer();
     }
 
+    private static String sentence = "";
+    private static int asked = 0;
     private static int wrong = 0;
 
     private Check() {
     }
 
+    /** The words of the document that the comparisons from here on hold it to. */
+    static void sentence(String words) {
+        sentence = words;
+    }
+
     static void same(String what, long got, long want) {
+        asked++;
         if (got != want) {
-            wrong++;
-            System.out.println(what + " answered " + got + ", due is " + want);
+            tell(what + " answered " + got + ", due is " + want);
         }
     }
 
     static void same(String what, String got, String want) {
+        asked++;
         if (!got.equals(want)) {
-            wrong++;
-            System.out.println(what + " is " + got + ", due is " + want);
+            tell(what + " is " + got + ", due is " + want);
         }
     }
 
-    /** The very class counts, and that the class itself threw it, not the machine below it. */
+    static void yes(String what, boolean got) {
+        same(what, got ? 1 : 0, 1);
+    }
+
+    static void no(String what, boolean got) {
+        same(what, got ? 1 : 0, 0);
+    }
+
+    private static void tell(String what) {
+        wrong++;
+        System.out.println("\"" + sentence + "\": " + what);
+    }
+
+    /** The very class counts, and that the program threw it, not the machine below it. */
     static void refused(String what, Class<? extends RuntimeException> due, Call call) {
         try {
             same(what + " should have thrown; it", call.answer() + "", due.getSimpleName());
         } catch (RuntimeException e) {
             same(what, e.getClass().getName(), due.getName());
-            if (e.getMessage() == null || e.getMessage().startsWith("Index")) {
-                wrong++;
-                System.out.println(what + " was thrown by the machine: " + e.getMessage());
-            }
+            String text = e.getMessage() == null ? "" : e.getMessage();
+            no(what + " was thrown by the machine", text.startsWith("Index") || text.startsWith("arraycopy"));
         }
     }
 
     static void end() {
-        if (wrong > 0) {
-            System.out.println(wrong + " answers are not as due");
+        if (wrong > 0 || asked == 0) {
+            System.out.println(wrong + " of " + asked + " answers are not as due");
             System.exit(1);
         }
-    }
-
-    static FlateFilter with(long most, byte[] bytes) {
-        FlateFilter x = new FlateFilter(most);
-        for (byte b : bytes) {
-            x.add(b);
-        }
-        return x;
-    }
-
-    static FlateFilter with(byte[] bytes) {
-        return with(4000, bytes);
-    }
-
-    /** How many bytes the out has, found from its end, as no call tells it alone. */
-    static int outSize(FlateFilter x) {
-        int size = 0;
-        while (size < 5000) {
-            try {
-                x.cell(size + 1);
-            } catch (ArrayIndexOutOfBoundsException e) {
-                return size;
-            }
-            size++;
-        }
-        return size;
-    }
-
-    static byte[] outOf(FlateFilter x) {
-        byte[] all = new byte[outSize(x)];
-        for (int i = 0; i < all.length; i++) {
-            all[i] = x.out(i);
-        }
-        return all;
-    }
-
-    static String hexOf(FlateFilter x) {
-        return hex(outOf(x));
     }
 
     static String hex(byte[] bytes) {
         StringBuilder text = new StringBuilder();
         for (byte b : bytes) {
-            text.append(String.format("%02x", b & 255));
+            text.append(Character.forDigit((b >> 4) & 15, 16)).append(Character.forDigit(b & 15, 16));
         }
         return text.toString();
     }
@@ -122,22 +102,43 @@ final class Check {
         return all;
     }
 
-    static byte[] join(byte[] one, byte[] other) {
-        byte[] all = Arrays.copyOf(one, one.length + other.length);
-        System.arraycopy(other, 0, all, one.length, other.length);
+    /** The bytes from .. to, both of them too. */
+    static byte[] range(int from, int to) {
+        byte[] all = new byte[to - from + 1];
+        for (int i = 0; i < all.length; i++) {
+            all[i] = (byte) (from + i);
+        }
         return all;
     }
 
-    /** Unpacking of a stream: the answer, then the out in hexadecimal. */
+    static byte[] join(byte[]... parts) {
+        int size = 0;
+        for (byte[] part : parts) {
+            size += part.length;
+        }
+        byte[] all = new byte[size];
+        int place = 0;
+        for (byte[] part : parts) {
+            System.arraycopy(part, 0, all, place, part.length);
+            place += part.length;
+        }
+        return all;
+    }
+
+    /** Unpacking of a stream: the answer, and the out in hexadecimal. */
     static void unpacks(String what, long most, int kind, byte[] stream, int answer, String out) {
-        FlateFilter x = with(most, stream);
+        Run x = Run.with(most, stream);
         same(what, x.unpack(kind), answer);
-        same(what + ", the out", hexOf(x), out);
+        x.outIs(what, out);
     }
 
     static void packs(String what, int kind, int level, byte[] bytes, String out) {
-        FlateFilter x = with(bytes);
-        same(what, x.pack(kind, level), out.length() / 2);
-        same(what + ", the out", hexOf(x), out);
+        packs(what, kind, level, bytes, fromHex(out));
+    }
+
+    static void packs(String what, int kind, int level, byte[] bytes, byte[] out) {
+        Run x = Run.with(bytes);
+        same(what, x.pack(kind, level), out.length);
+        x.outIs(what, out);
     }
 }

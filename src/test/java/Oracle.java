@@ -8,7 +8,7 @@ import java.util.TreeSet;
 
 /** The document's words on packing once more, in the slowest and plainest way, to compare with. */
 final class Oracle {
-    private static final int[] ORDER = {16, 17, 18, 0, 8, 7, 9, 6, 10, 5, 11, 4, 12, 3, 13, 2, 14, 1, 15};
+    static final int[] ORDER = {16, 17, 18, 0, 8, 7, 9, 6, 10, 5, 11, 4, 12, 3, 13, 2, 14, 1, 15};
 
     private Oracle() {
     }
@@ -68,15 +68,15 @@ final class Oracle {
         return b * 65536 + a;
     }
 
-    private static int lengthOf(int k) {
+    static int lengthOf(int k) {
         return k < 8 ? 3 + k : k == 28 ? 258 : 3 + (4 + k % 4) * (1 << (k / 4 - 1));
     }
 
-    private static int distanceOf(int k) {
+    static int distanceOf(int k) {
         return k < 4 ? 1 + k : 1 + (2 + k % 2) * (1 << (k / 2 - 1));
     }
 
-    private static int lengthSymbol(int length) {
+    static int lengthSymbol(int length) {
         int k = 28;
         while (lengthOf(k) > length) {
             k--;
@@ -84,7 +84,7 @@ final class Oracle {
         return k;
     }
 
-    private static int distanceSymbol(int distance) {
+    static int distanceSymbol(int distance) {
         int k = 29;
         while (distanceOf(k) > distance) {
             k--;
@@ -93,7 +93,7 @@ final class Oracle {
     }
 
     /** Pairs of a length and a distance, or of a byte and 0. */
-    private static List<int[]> tokens(byte[] data) {
+    static List<int[]> tokens(byte[] data) {
         List<int[]> all = new ArrayList<>();
         int place = 0;
         while (place < data.length) {
@@ -124,7 +124,7 @@ final class Oracle {
         return best;
     }
 
-    private static void toldLengths(List<int[]> tokens, int[] symbols, int[] distances) {
+    static void toldLengths(List<int[]> tokens, int[] symbols, int[] distances) {
         Map<Integer, Integer> symbolCounts = new HashMap<>();
         Map<Integer, Integer> distanceCounts = new HashMap<>();
         symbolCounts.put(256, 1);
@@ -161,7 +161,7 @@ final class Oracle {
         }
     }
 
-    private static String[] codes(int[] lengths) {
+    static String[] codes(int[] lengths) {
         String[] all = new String[lengths.length];
         int code = 0;
         for (int length = 1; length <= 15; length++) {
@@ -169,7 +169,7 @@ final class Oracle {
             for (int symbol = 0; symbol < lengths.length; symbol++) {
                 if (lengths[symbol] == length) {
                     String bits = Integer.toBinaryString(code);
-                    all[symbol] = "0".repeat(length - bits.length()) + bits;
+                    all[symbol] = "0".repeat(Math.max(0, length - bits.length())) + bits;
                     code++;
                 }
             }
@@ -223,7 +223,7 @@ final class Oracle {
         }
     }
 
-    private static int[] tellerLengths(List<int[]> told) {
+    static int[] tellerLengths(List<int[]> told) {
         TreeSet<Integer> different = new TreeSet<>();
         told.forEach(one -> different.add(one[0]));
         int n = different.size();

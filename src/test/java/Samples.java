@@ -1,3 +1,4 @@
+import java.util.Arrays;
 import java.util.Random;
 
 /** Bytes of several sorts for the tests that go both ways. */
@@ -5,8 +6,14 @@ final class Samples {
     private Samples() {
     }
 
+    /** Up to 800 bytes, as far as an object can be given them within its calls. */
     static byte[] of(Random random, int sort) {
-        byte[] data = new byte[random.nextInt(4) == 0 ? random.nextInt(12) : random.nextInt(801)];
+        byte[] data = of(random, sort, random.nextInt(4) == 0 ? 11 : 800);
+        return Run.canHold(data) ? data : Arrays.copyOf(data, 400);
+    }
+
+    static byte[] of(Random random, int sort, int most) {
+        byte[] data = new byte[random.nextInt(most + 1)];
         for (int i = 0; i < data.length; i++) {
             data[i] = (byte) next(random, sort, data, i);
         }
