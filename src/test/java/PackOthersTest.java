@@ -65,7 +65,8 @@ public final class PackOthersTest {
 
     private static void dictionaryWidths() {
         Check.sentence("A code has 9 bits, but 10, 11, 12 when the entry that would come with it is 511, 1023, 2047 or more.");
-        // With the n-th code behind 256, but the first, entry 256 + n would come.
+        // With the n-th code behind 256, but the first, entry 256 + n would come; of 1600 bytes, the most that
+        // a predictor makes, that is less than 2047, so that no code ever has 12 bits, and no entry is 4095.
         for (int count : new int[] {252, 253, 254, 255, 256, 400, 764, 765, 766, 767, 768, 800}) {
             byte[] data = withoutPairs(count);
             Bits due = Bits.dictionary().high(256, 9);

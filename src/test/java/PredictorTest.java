@@ -260,6 +260,8 @@ public final class PredictorTest {
         Check.sentence("with the least sum of its bytes (those above 127 as 256 less them)");
         // As they are 127 and 127 make 254; less the one before 127 and 0.
         filters("127", 15, 1, 8, 2, Check.bytes(127, 127), "017f00");
+        // By 0 1 + 128, by 1 1 + 127.
+        filters("127 counts 127", 15, 1, 8, 2, Check.bytes(1, 128), "01017f");
         // Alone in the first row it is the same by all.
         filters("128 alone", 15, 1, 8, 1, Check.bytes(128), "0080");
         // By 0 it is 128 and 129, 128 + 127; by 1 128 and 1.

@@ -44,7 +44,9 @@ public final class RefusedTest {
         for (int kind : new int[] {-1, 5, 6, 256, Integer.MIN_VALUE, Integer.MAX_VALUE}) {
             Check.refused("pack " + kind, ARGUMENT, () -> x.pack(kind, 0));
             Check.refused("unpack " + kind, ARGUMENT, () -> x.unpack(kind));
-            Check.refused("chain " + (kind - 1), ARGUMENT, () -> x.chain(kind < 0 ? -2 : kind));
+        }
+        for (int kind : new int[] {-2, 5, 6, 256, Integer.MIN_VALUE, Integer.MAX_VALUE}) {
+            Check.refused("chain " + kind, ARGUMENT, () -> x.chain(kind));
         }
         for (int kind : new int[] {-1, 2, 3, Integer.MIN_VALUE, Integer.MAX_VALUE}) {
             Check.refused("sum " + kind, ARGUMENT, () -> x.sum(kind));
@@ -68,7 +70,9 @@ public final class RefusedTest {
         Run x = filled(4000);
         for (int i : new int[] {-1, 1, 2, 4000, Integer.MIN_VALUE, Integer.MAX_VALUE}) {
             Check.refused("out " + i, PLACE, () -> x.out(i));
-            Check.refused("cell " + i, PLACE, () -> x.cell(i == 1 ? 0 : i));
+        }
+        for (int back : new int[] {-1, 0, 2, 4000, Integer.MIN_VALUE, Integer.MAX_VALUE}) {
+            Check.refused("cell " + back, PLACE, () -> x.cell(back));
         }
         stays("wrong places", x, filled(4000));
     }

@@ -9,6 +9,7 @@ import java.util.zip.Deflater;
 final class Run {
     private static final int MOST_CALLS = 512;
     private static final int MOST_OUT = 4000;
+    private static final int MORE_THAN_CAN_BE = 4096;
     // So many adds leave a test some calls for what it asks.
     private static final int MOST_ADDS = 400;
 
@@ -113,7 +114,7 @@ final class Run {
     /** How many bytes the out has, as no call tells it alone: found by halving. */
     int outSize() {
         int size = 0;
-        int beyond = MOST_OUT + 1;
+        int beyond = MORE_THAN_CAN_BE;
         while (beyond - size > 1) {
             int middle = (size + beyond) / 2;
             if (hasOut(middle - 1)) {

@@ -28,6 +28,8 @@ public final class UnpackCodesTest {
         endMayBeNone();
         noSuchSymbols();
         toldTwice();
+        fewerTellersThanBefore();
+        manyShortCodes();
         cutHeads();
         Check.end();
     }
@@ -408,6 +410,44 @@ public final class UnpackCodesTest {
         stream.raw("0 0 1").low(0, 1).low(1, 2).fixed('c').fixed(257).high(1, 5).fixed(256).low(1, 1);
         new Told(stream, 0, 0, 0, 2, 1, 2, 2, 2, 18, 2).zeros(100).tell(1).zeros(155).tell(1, 0);
         good("lengths of the block before are gone", stream.raw("0 1"), "61616161" + "6262" + "63" + "626362" + "64");
+    }
+
+    private static void fewerTellersThanBefore() {
+        Check.sentence("c + 4 lengths, 3 bits each, of codes for 16, 17, 18, 0, 8, ..");
+        Bits stream = Bits.flate().low(0, 1);
+        new Told(stream, 0, 0, 18, 1, 0, 3, 1, 3, 15, 2).zeros(97).tell(1).zeros(158).tell(1, 0);
+        stream.raw("0 0 1").low(1, 1);
+        Told eight = new Told(stream, 0, 0, 16, 2, 0, 2, 8, 1);
+        eight.tell(8);
+        for (int i = 0; i < 42; i++) {
+            eight.tellMore(16, 3);
+        }
+        eight.tellMore(16, 0).tell(0, 0);
+        endless("lengths of tellers of the block before are gone", stream.high(200, 8).high(7, 8), "6161" + "c807");
+    }
+
+    private static void manyShortCodes() {
+        Check.sentence("SYMBOLS by CODES");
+        // By one bit each 4000 bytes take 500; the stream itself comes to be the bytes by FLATE.
+        Bits most = Told.small(0, 0).zeros(97).tell(1).zeros(158).tell(1, 0).bits();
+        for (int i = 0; i < 4000; i++) {
+            most.raw("0");
+        }
+        byte[] due = Check.filled(4000, 'a');
+        Run x = Run.with(most.raw("1").done(Run.adler(due)));
+        Check.same("4000 symbols in one block", x.unpack(0), 4000);
+        x.outSums("4000 symbols in one block", due);
+        Check.no("4000 symbols in one block: differs", x.differs());
+        // 635 blocks of ten bits, and the sum: 800 bytes.
+        Bits blocks = Bits.flate();
+        for (int i = 0; i < 635; i++) {
+            blocks.low(i == 634 ? 1 : 0, 1).low(1, 2).fixed(256);
+        }
+        byte[] stream = blocks.done(1);
+        Check.same("800 bytes", stream.length, 800);
+        Run y = Run.with(stream);
+        Check.same("635 blocks", y.unpack(0), 0);
+        Check.no("635 blocks: differs", y.differs());
     }
 
     private static void cutHeads() {

@@ -68,11 +68,12 @@ public final class UnpackOthersTest {
         dictionary("twice", nine(256, 256, 'b', 257), 1, "62");
         dictionary("before the end", nine('a', 256, 257), 1, "61");
         Bits all = Bits.dictionary();
-        for (int i = 0; i < 355; i++) {
+        for (int i = 0; i < 711; i++) {
             all.high(256, 9);
         }
         byte[] bytes = all.done();
-        Check.unpacks("nothing else", 4000, DICTIONARY, bytes, -1 - bytes.length, "");
+        Check.same("711 codes are 800 bytes", bytes.length, 800);
+        Check.unpacks("nothing else", 4000, DICTIONARY, bytes, -1 - 800, "");
         Bits wide = Bits.dictionary();
         for (int n = 1; n <= 260; n++) {
             wide.high(n & 255, n >= 255 ? 10 : 9);
@@ -218,6 +219,13 @@ public final class UnpackOthersTest {
         Check.unpacks("no bytes", 4000, RUNS, new byte[0], -1, "");
         Check.unpacks("none", 4000, RUNS, Check.bytes(0, 7), -1 - 2, "07");
         Check.unpacks("none behind a run", 4000, RUNS, Check.bytes(255, 7), -1 - 2, "0707");
+        byte[] full = new byte[800];
+        for (int i = 0; i < 800; i += 2) {
+            full[i + 1] = 7;
+        }
+        Run x = Run.with(full);
+        Check.same("400 of one each, and none", x.unpack(RUNS), -1 - 800);
+        x.outSums("400 of one each, and none", Check.filled(400, 7));
     }
 
     private static void runsBound() {
@@ -263,6 +271,8 @@ public final class UnpackOthersTest {
         halves("all of them, between two signs", all + "1" + all + "2>", 2, "4142");
         halves("before the first", " \n41>", 1, "41");
         halves("only such", " ".repeat(300), -1 - 300, "");
+        halves("800 of them", " ".repeat(800), -1 - 800, "");
+        halves("799 and the end", " ".repeat(799) + ">", 0, "");
         halves("before the end", "41 \t>", 1, "41");
     }
 
@@ -333,6 +343,9 @@ public final class UnpackOthersTest {
         fives("all of them", "9" + all + "jqo^" + all + "z" + all + "~>", 8, "4d616e2000000000");
         fives("33 is none", "!!!!!~>", 4, "00000000");
         fives("only such", " ".repeat(300), -1 - 300, "");
+        fives("800 of them", " ".repeat(800), -1 - 800, "");
+        fives("798 and the end", " ".repeat(798) + "~>", 0, "");
+        fives("799 and a half of the end", " ".repeat(799) + "~", -1 - 800, "");
     }
 
     private static void fivesEnd() {
