@@ -271,6 +271,46 @@ final class Oracle {
         return to.high(257, widthFor(entry)).done();
     }
 
+    static byte[] runs(byte[] data) {
+        byte[] all = new byte[0];
+        int place = 0;
+        while (place < data.length) {
+            int end = place + 1;
+            while (end < data.length && end - place < 128 && data[end] == data[place]) {
+                end++;
+            }
+            if (end - place > 1) {
+                all = Check.join(all, Check.bytes(257 - (end - place), data[place]));
+            } else {
+                while (end < data.length && end - place < 128 && (end == data.length - 1 || data[end] != data[end + 1])) {
+                    end++;
+                }
+                all = Check.join(all, Check.bytes(end - place - 1), Arrays.copyOfRange(data, place, end));
+            }
+            place = end;
+        }
+        return Check.join(all, Check.bytes(128));
+    }
+
+    static byte[] halves(byte[] data) {
+        return Check.text(Check.hex(data).toUpperCase() + ">");
+    }
+
+    static byte[] fives(byte[] data) {
+        StringBuilder all = new StringBuilder();
+        for (int i = 0; i < data.length; i += 4) {
+            int count = Math.min(4, data.length - i);
+            long value = Long.parseLong(Check.hex(Arrays.copyOf(Arrays.copyOfRange(data, i, i + count), 4)), 16);
+            String signs = "";
+            for (int k = 0; k < 5; k++) {
+                signs = (char) (33 + value % 85) + signs;
+                value /= 85;
+            }
+            all.append(count == 4 && signs.equals("!!!!!") ? "z" : signs.substring(0, count + 1));
+        }
+        return Check.text(all + "~>");
+    }
+
     private static int widthFor(int entry) {
         return entry >= 2047 ? 12 : entry >= 1023 ? 11 : entry >= 511 ? 10 : 9;
     }
