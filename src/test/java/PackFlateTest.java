@@ -29,6 +29,7 @@ public final class PackFlateTest {
         leastOfAlikeOnes();
         levels();
         bound();
+        usedObject();
         bytesStay();
         Check.end();
     }
@@ -475,6 +476,21 @@ public final class PackFlateTest {
         third.outIs("level 3 fits", Oracle.flate(data, 1));
         Run none = new Run(0);
         Check.refused("bound 0", UnsupportedOperationException.class, () -> none.pack(0, 1));
+    }
+
+    /** The lengths told first have one more behind where the second ones end, and it is like their last ones. */
+    private static void usedObject() {
+        Check.sentence("Lengths are told: .. of others alike ones of 3 .. 6 behind one by 16");
+        Run x = Run.with(Check.text("aaddddacaaaaaaaaaadcaacaaa"));
+        x.pack(0, 2);
+        x.pack(3, 0);
+        x.chain(-1);
+        Check.same("halves are no FLATE", x.unpack(0), -1);
+        Check.same("no bytes are left", x.chain(-1), 0);
+        byte[] second = Check.text("abaaaaabaaaaaaabbbaaaaaaaba");
+        x.addAll(second);
+        x.pack(0, 2);
+        x.outIs("nothing of the first ones shows", Oracle.flate(second, 2));
     }
 
     private static void bytesStay() {
